@@ -50,17 +50,22 @@ public final class RulesTest {
         Check.refused("forget(0) of none", desk, "IndexOutOfBoundsException", () -> desk.forget(0));
     }
 
-    // Rule i is for rows of i items; each part of a rule must come along when its number changes.
+    // Rule i is for rows of i items, told by their number or by the greatest key; each part of a
+    // rule must come along when its number changes.
     private static void forgetOneOfAll() {
         SortDesk desk = new SortDesk();
         for (int i = 0; i < 12; i++) {
-            desk.rule(i % 2 == 0 ? 0 : 7, i, i, i % 2 == 0 ? 4 : 1);
+            if (i % 2 == 0) {
+                desk.rule(0, i, i, 4);
+            } else {
+                desk.rule(4, 1000 + i, 1000 + i, 1);
+            }
         }
         Check.due("forget(5) of 12", desk.forget(5), 11);
         for (int i = 0; i < 12; i++) {
             int want = i == 5 ? 2 : i % 2 == 0 ? 4 : 1;
             Check.due("plan for " + i + " items", desk.plan(), want);
-            desk.put(i, 0);
+            desk.put(1001 + i, 0);
         }
     }
 
