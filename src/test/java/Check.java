@@ -6,25 +6,39 @@ final class Check {
         long answer();
     }
 
+    interface CallOn {
+        long answer(SortDesk desk);
+    }
+
+    interface Maker {
+        SortDesk make();
+    }
+
+    private interface View {
+        String of(SortDesk desk);
+    }
+
+    private static String sentence = "";
     private static int wrong = 0;
     private static int done = 0;
 
     private Check() {
     }
 
+    /** The document's sentence that asks for the answers from here on. */
+    static void sentence(String words) {
+        sentence = "'" + words + "': ";
+    }
+
     static void due(String what, long got, long want) {
-        done++;
-        if (got != want) {
-            wrong++;
-            System.out.println(what + " answered " + got + ", due is " + want);
-        }
+        due(what, Long.toString(got), Long.toString(want));
     }
 
     static void due(String what, String got, String want) {
         done++;
         if (!got.equals(want)) {
             wrong++;
-            System.out.println(what + " answered " + got + ", due is " + want);
+            System.out.println(sentence + what + " answered " + got + ", due is " + want);
         }
     }
 
@@ -48,6 +62,49 @@ final class Check {
         due(what + ", state after it", state(desk), before);
     }
 
+    /**
+     * The call throws this exception, and afterwards the desk answers as one that was not called.
+     * Each view has two desks of its own: so views may change them, and no desk comes to its 512th
+     * call.
+     */
+    static void refused(String what, Maker maker, String exception, CallOn call) {
+        View[] views = {Check::rowOf, Check::rulesOf, Check::trail, Check::countsOf, Check::backOf};
+        for (View view : views) {
+            SortDesk desk = maker.make();
+            due(what, outcome(() -> call.answer(desk)), "throws." + exception);
+            due(what + ", what is seen after it", view.of(desk), view.of(maker.make()));
+        }
+    }
+
+    private static String rowOf(SortDesk desk) {
+        return keys(desk) + tags(desk);
+    }
+
+    private static String rulesOf(SortDesk desk) {
+        StringBuilder text = new StringBuilder();
+        String left = "";
+        while (!left.startsWith("throws")) {
+            text.append(left).append(" plan ").append(desk.plan()).append(" left ");
+            left = outcome(() -> desk.forget(0));
+        }
+        return text.toString();
+    }
+
+    private static String countsOf(SortDesk desk) {
+        StringBuilder text = new StringBuilder();
+        for (int what = 0; what < 8; what++) {
+            text.append(desk.figure(what)).append(' ');
+        }
+        for (int way = 0; way < 5; way++) {
+            text.append(desk.isFit(way)).append(' ').append(desk.times(way)).append(' ');
+        }
+        return text.append(desk.compared()).append(' ').append(desk.astray()).toString();
+    }
+
+    private static String backOf(SortDesk desk) {
+        return outcome(() -> desk.putBack()) + keys(desk) + desk.steps();
+    }
+
     static SortDesk desk(int... keys) {
         SortDesk desk = new SortDesk();
         for (int i = 0; i < keys.length; i++) {
@@ -57,9 +114,29 @@ final class Check {
     }
 
     static SortDesk full() {
+        return rising(150);
+    }
+
+    static SortDesk rising(int size) {
         SortDesk desk = new SortDesk();
-        for (int i = 0; i < 150; i++) {
+        for (int i = 0; i < size; i++) {
             desk.put(i, i);
+        }
+        return desk;
+    }
+
+    static SortDesk falling(int size) {
+        SortDesk desk = new SortDesk();
+        for (int i = 0; i < size; i++) {
+            desk.put(-i, i);
+        }
+        return desk;
+    }
+
+    static SortDesk same(int size, int key) {
+        SortDesk desk = new SortDesk();
+        for (int i = 0; i < size; i++) {
+            desk.put(key, i);
         }
         return desk;
     }

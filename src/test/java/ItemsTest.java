@@ -34,7 +34,7 @@ public final class ItemsTest {
         Check.due("first key", desk.at(0, false), 1000);
         Check.due("last key", desk.at(149, false), 851);
         Check.due("last tag", desk.at(149, true), -149);
-        Check.refused("put, 150 there", desk, FULL, () -> desk.put(1, 1));
+        Check.refused("put, 150 there", Check::full, FULL, full -> full.put(1, 1));
         desk.remove(3);
         Check.due("put after remove", desk.put(7, 8), 149);
         SortDesk extremes = new SortDesk();
@@ -57,11 +57,11 @@ public final class ItemsTest {
         Check.refused("insert(5) of 4", desk, NO_PLACE, () -> desk.insert(5, 0, 0));
         Check.refused("insert(min)", desk, NO_PLACE, () -> desk.insert(Integer.MIN_VALUE, 0, 0));
         Check.refused("insert(max)", desk, NO_PLACE, () -> desk.insert(Integer.MAX_VALUE, 0, 0));
+        Check.refused("insert(0) of 150", Check::full, FULL, all -> all.insert(0, 0, 0));
+        Check.refused("insert(150) of 150", Check::full, FULL, all -> all.insert(150, 0, 0));
+        Check.refused("insert(151) of 150", Check::full, NO_PLACE, all -> all.insert(151, 0, 0));
+        Check.refused("insert(-1) of 150", Check::full, NO_PLACE, all -> all.insert(-1, 0, 0));
         SortDesk full = Check.full();
-        Check.refused("insert(0) of 150", full, FULL, () -> full.insert(0, 0, 0));
-        Check.refused("insert(150) of 150", full, FULL, () -> full.insert(150, 0, 0));
-        Check.refused("insert(151) of 150", full, NO_PLACE, () -> full.insert(151, 0, 0));
-        Check.refused("insert(-1) of 150", full, NO_PLACE, () -> full.insert(-1, 0, 0));
         full.remove(149);
         Check.due("insert the 150th", full.insert(0, -1, -1), 150);
         Check.due("the last of 150", full.at(149, false), 148);
@@ -91,7 +91,6 @@ public final class ItemsTest {
         Check.refused("at(2)", desk, NO_PLACE, () -> desk.at(2, true));
         Check.refused("at(-1)", desk, NO_PLACE, () -> desk.at(-1, false));
         Check.refused("at(150)", desk, NO_PLACE, () -> desk.at(150, false));
-        SortDesk full = Check.full();
-        Check.refused("at(150) of 150", full, NO_PLACE, () -> full.at(150, false));
+        Check.refused("at(150) of 150", Check::full, NO_PLACE, full -> full.at(150, false));
     }
 }

@@ -11,6 +11,7 @@ public final class ModelTest {
     private final int seed;
     private final int kindOfKeys;
     private final int growth;
+    private int calls;
 
     private ModelTest(int seed) {
         this.seed = seed;
@@ -26,10 +27,13 @@ public final class ModelTest {
         Check.end();
     }
 
+    // Half of the runs, of every kind of keys, stop early: the calls that are left, of the 512 that
+    // the document promises, see the row and the trail.
     private void run() {
-        for (int i = 0; i < CALLS; i++) {
-            if (random.nextInt(10) < growth && i < 300) {
-                grow(i);
+        int chosenCalls = seed / 6 % 2 == 0 ? CALLS : 200;
+        while (calls < chosenCalls) {
+            if (random.nextInt(10) < growth && calls < 300) {
+                grow(calls);
             } else {
                 call();
             }
@@ -107,6 +111,10 @@ public final class ModelTest {
     }
 
     private void same(String call, Check.Call ours, Check.Call models) {
+        if (calls == CALLS) {
+            return;
+        }
+        calls++;
         Check.due("seed " + seed + ": " + call, Check.outcome(ours), Check.outcome(models));
     }
 }

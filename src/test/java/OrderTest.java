@@ -125,8 +125,7 @@ public final class OrderTest {
         }
         Check.refused("turning, not fit", desk, "IllegalStateException", () -> desk.order(0));
         Check.refused("counting, not fit", desk, "IllegalStateException", () -> desk.order(3));
-        SortDesk full = Check.full();
-        Check.refused("putting in, not fit", full, "IllegalStateException", () -> full.order(1));
+        Check.refused("putting in, not fit", Check::full, "IllegalStateException", full -> full.order(1));
         Check.due("put back after refusals", desk.putBack(), 3);
         Check.due("keys put back", Check.keys(desk), "[3, 1, 2000]");
     }

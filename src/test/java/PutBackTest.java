@@ -65,21 +65,26 @@ public final class PutBackTest {
     }
 
     private static void otherCallsBetween() {
-        SortDesk desk = Check.full();
-        desk.remove(0);
-        desk.insert(149, -5, -5);
-        desk.order(2);
-        Check.refused("put into a full row", desk, "UnsupportedOperationException", () -> desk.put(1, 1));
-        Check.refused("insert into a full row", desk, "UnsupportedOperationException", () -> desk.insert(0, 1, 1));
-        Check.refused("insert at no place", desk, "IndexOutOfBoundsException", () -> desk.insert(-1, 1, 1));
-        Check.refused("remove from no place", desk, "IndexOutOfBoundsException", () -> desk.remove(150));
-        Check.refused("order by no way", desk, "IllegalArgumentException", () -> desk.order(7));
+        SortDesk desk = orderedFull();
+        Check.outcome(() -> desk.put(1, 1));
+        Check.outcome(() -> desk.insert(0, 1, 1));
+        Check.outcome(() -> desk.insert(-1, 1, 1));
+        Check.outcome(() -> desk.remove(150));
+        Check.outcome(() -> desk.order(7));
         desk.rule(0, 0, 0, 0);
         desk.forget(0);
         desk.origin(0);
         desk.below(0);
         Check.due("none of these hinders it", desk.putBack(), 150);
         Check.due("the last key", desk.at(149, false), -5);
+    }
+
+    private static SortDesk orderedFull() {
+        SortDesk desk = Check.full();
+        desk.remove(0);
+        desk.insert(149, -5, -5);
+        desk.order(2);
+        return desk;
     }
 
     private static void noItems() {
