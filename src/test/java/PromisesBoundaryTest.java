@@ -8,38 +8,38 @@ public final class PromisesBoundaryTest {
     private static final String FULL = "UnsupportedOperationException";
 
     public static void main(String[] args) {
-        newObject();
-        putPlace();
-        putFull();
-        insertPlaces();
-        insertFull();
-        remove();
-        at();
-        noSuchFigure();
-        ruleNumber();
-        ruleOfNothing();
-        ruleFull();
-        forget();
-        plan();
-        isFit();
-        orderByPlan();
-        orderByNoWay();
-        orderNotFit();
-        putBack();
-        putBackWithoutOrdering();
-        putBackAfterItems();
-        putBackTwice();
-        steps();
-        stepNumbers();
-        origin();
-        originChangesNothing();
-        below();
-        belowInAFallingRow();
-        compared();
-        times();
-        timesOfNoWay();
-        astray();
-        Check.end();
+        Check.all(
+            PromisesBoundaryTest::newObject,
+            PromisesBoundaryTest::putPlace,
+            PromisesBoundaryTest::putFull,
+            PromisesBoundaryTest::insertPlaces,
+            PromisesBoundaryTest::insertFull,
+            PromisesBoundaryTest::remove,
+            PromisesBoundaryTest::at,
+            PromisesBoundaryTest::noSuchFigure,
+            PromisesBoundaryTest::ruleNumber,
+            PromisesBoundaryTest::ruleOfNothing,
+            PromisesBoundaryTest::ruleFull,
+            PromisesBoundaryTest::forget,
+            PromisesBoundaryTest::plan,
+            PromisesBoundaryTest::isFit,
+            PromisesBoundaryTest::orderByPlan,
+            PromisesBoundaryTest::orderByNoWay,
+            PromisesBoundaryTest::orderNotFit,
+            PromisesBoundaryTest::putBack,
+            PromisesBoundaryTest::putBackWithoutOrdering,
+            PromisesBoundaryTest::putBackAfterItems,
+            PromisesBoundaryTest::putBackTwice,
+            PromisesBoundaryTest::steps,
+            PromisesBoundaryTest::stepNumbers,
+            PromisesBoundaryTest::origin,
+            PromisesBoundaryTest::originChangesNothing,
+            PromisesBoundaryTest::below,
+            PromisesBoundaryTest::belowInAFallingRow,
+            PromisesBoundaryTest::compared,
+            PromisesBoundaryTest::times,
+            PromisesBoundaryTest::timesOfNoWay,
+            PromisesBoundaryTest::astray);
     }
 
     private static void newObject() {
@@ -192,11 +192,15 @@ public final class PromisesBoundaryTest {
         Check.due("12 again", Check.outcome(() -> desk.rule(0, 0, 9, 4)), "throws." + FULL);
     }
 
-    /** Rule i is for rows of i items, and for none else. */
+    /** Rule i is for i items alone: an even one tells them by their number, an odd one by the greatest key. */
     private static SortDesk withRules(int count) {
         SortDesk desk = new SortDesk();
         for (int i = 0; i < count; i++) {
-            desk.rule(i % 2 == 0 ? 0 : 4, i, i, i % 2 == 0 ? 4 : 1);
+            if (i % 2 == 0) {
+                desk.rule(0, i, i, 4);
+            } else {
+                desk.rule(4, 1000 + i, 1000 + i, 1);
+            }
         }
         return desk;
     }
@@ -210,7 +214,7 @@ public final class PromisesBoundaryTest {
             for (int i = 0; i < 12; i++) {
                 int want = i == gone ? 2 : i % 2 == 0 ? 4 : 1;
                 Check.due("plan for " + i + " items without rule " + gone, desk.plan(), want);
-                desk.put(i + 1, i);
+                desk.put(1001 + i, i);
             }
         }
         SortDesk one = withRules(1);
@@ -283,7 +287,7 @@ public final class PromisesBoundaryTest {
     }
 
     private static void putBack() {
-        Check.sentence("The items stand as they did before the latest ordering, and the trail is empty: how many there are.");
+        Check.sentence("The items stand as they did before the latest ordering, and the trail is empty: how many");
         SortDesk none = new SortDesk();
         none.order(2);
         Check.due("none", none.putBack(), 0);

@@ -8,29 +8,29 @@ public final class TermsBoundaryTest {
     private static final String FULL = "UnsupportedOperationException";
 
     public static void main(String[] args) {
-        the512thCall();
-        items();
-        howMany();
-        runs();
-        falls();
-        leastKey();
-        greatestKey();
-        itemsAbove();
-        inversions();
-        differentKeys();
-        withoutItems();
-        rules();
-        planBetween();
-        planFirst();
-        planFit();
-        planNone();
-        noSuchPlace();
-        noSuchRule();
-        noSuchStep();
-        severalExceptions();
-        nothingChanged();
-        nothingChangedInAFullDesk();
-        Check.end();
+        Check.all(
+            TermsBoundaryTest::the512thCall,
+            TermsBoundaryTest::items,
+            TermsBoundaryTest::howMany,
+            TermsBoundaryTest::runs,
+            TermsBoundaryTest::falls,
+            TermsBoundaryTest::leastKey,
+            TermsBoundaryTest::greatestKey,
+            TermsBoundaryTest::itemsAbove,
+            TermsBoundaryTest::inversions,
+            TermsBoundaryTest::differentKeys,
+            TermsBoundaryTest::withoutItems,
+            TermsBoundaryTest::rules,
+            TermsBoundaryTest::planBetween,
+            TermsBoundaryTest::planFirst,
+            TermsBoundaryTest::planFit,
+            TermsBoundaryTest::planNone,
+            TermsBoundaryTest::noSuchPlace,
+            TermsBoundaryTest::noSuchRule,
+            TermsBoundaryTest::noSuchStep,
+            TermsBoundaryTest::severalExceptions,
+            TermsBoundaryTest::nothingChanged,
+            TermsBoundaryTest::nothingChangedInAFullDesk);
     }
 
     private static void the512thCall() {
@@ -312,10 +312,15 @@ public final class TermsBoundaryTest {
 
     private static void nothingChanged() {
         Check.sentence("A call that throws changes nothing.");
-        Check.Maker maker = TermsBoundaryTest::inUse;
-        Check.refused("insert", maker, NO_PLACE, desk -> desk.insert(5, 1, 1));
-        Check.refused("remove", maker, NO_PLACE, desk -> desk.remove(4));
-        Check.refused("at", maker, NO_PLACE, desk -> desk.at(4, false));
+        nothingChangedIn(TermsBoundaryTest::inUse);
+        nothingChangedIn(TermsBoundaryTest::withOneMore);
+        Check.refused("putBack", TermsBoundaryTest::withOneMore, NOT_NOW, desk -> desk.putBack());
+    }
+
+    private static void nothingChangedIn(Check.Maker maker) {
+        Check.refused("insert", maker, NO_PLACE, desk -> desk.insert(6, 1, 1));
+        Check.refused("remove", maker, NO_PLACE, desk -> desk.remove(5));
+        Check.refused("at", maker, NO_PLACE, desk -> desk.at(5, false));
         Check.refused("figure", maker, WRONG, desk -> desk.figure(8));
         Check.refused("rule", maker, WRONG, desk -> desk.rule(0, 0, 9, 5));
         Check.refused("forget", maker, NO_PLACE, desk -> desk.forget(3));
@@ -323,9 +328,8 @@ public final class TermsBoundaryTest {
         Check.refused("order by no way", maker, WRONG, desk -> desk.order(5));
         Check.refused("order by one that is not fit", maker, NOT_NOW, desk -> desk.order(0));
         Check.refused("step", maker, NO_PLACE, desk -> desk.step(3, 3));
-        Check.refused("origin", maker, NO_PLACE, desk -> desk.origin(4));
+        Check.refused("origin", maker, NO_PLACE, desk -> desk.origin(5));
         Check.refused("times", maker, WRONG, desk -> desk.times(5));
-        Check.refused("putBack", TermsBoundaryTest::withOneMore, NOT_NOW, desk -> desk.putBack());
     }
 
     /** Items, rules, a trail, and an ordering that can be put back. */
@@ -338,6 +342,7 @@ public final class TermsBoundaryTest {
         return desk;
     }
 
+    /** The same, but the ordering can no longer be put back. */
     private static SortDesk withOneMore() {
         SortDesk desk = inUse();
         desk.put(-5, -5);

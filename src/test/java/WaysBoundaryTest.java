@@ -7,28 +7,28 @@ public final class WaysBoundaryTest {
     private static final String NOT_NOW = "IllegalStateException";
 
     public static void main(String[] args) {
-        orderOfKeys();
-        sameKeys();
-        turningFit();
-        turningCompares();
-        turningStep();
-        puttingInFit();
-        puttingInCompares();
-        puttingInGoes();
-        joiningFit();
-        joiningTwoRunsOrMore();
-        joiningAnOddOne();
-        joiningTwo();
-        joiningSteps();
-        countingFit();
-        countingComparesNothing();
-        countingSteps();
-        bytesFit();
-        bytesCompareNothing();
-        bytesWithSign();
-        bytesSteps();
-        trail();
-        Check.end();
+        Check.all(
+            WaysBoundaryTest::orderOfKeys,
+            WaysBoundaryTest::sameKeys,
+            WaysBoundaryTest::turningFit,
+            WaysBoundaryTest::turningCompares,
+            WaysBoundaryTest::turningStep,
+            WaysBoundaryTest::puttingInFit,
+            WaysBoundaryTest::puttingInCompares,
+            WaysBoundaryTest::puttingInGoes,
+            WaysBoundaryTest::joiningFit,
+            WaysBoundaryTest::joiningTwoRunsOrMore,
+            WaysBoundaryTest::joiningAnOddOne,
+            WaysBoundaryTest::joiningTwo,
+            WaysBoundaryTest::joiningSteps,
+            WaysBoundaryTest::countingFit,
+            WaysBoundaryTest::countingComparesNothing,
+            WaysBoundaryTest::countingSteps,
+            WaysBoundaryTest::bytesFit,
+            WaysBoundaryTest::bytesCompareNothing,
+            WaysBoundaryTest::bytesWithSign,
+            WaysBoundaryTest::bytesSteps,
+            WaysBoundaryTest::trail);
     }
 
     private static void ordered(String name, SortDesk desk, int way, int compared, String trail) {
@@ -133,7 +133,7 @@ public final class WaysBoundaryTest {
     }
 
     private static void puttingInCompares() {
-        Check.sentence("is compared with the one before it, then with the one before that, as long as these are greater");
+        Check.sentence("with the one before it, then with the one before that, as long as these are greater");
         Check.due("no item", Check.desk().order(1), 0);
         Check.due("one item", Check.desk(1).order(1), 0);
         Check.due("two that rise", Check.desk(1, 2).order(1), 1);
@@ -255,6 +255,9 @@ public final class WaysBoundaryTest {
             "3,-2147483648,2 3,-2147483148,2");
         ordered("at the greatest int", Check.desk(MAX, MAX - 500, MAX, MAX - 500), 3, 0,
             "3,2147483147,2 3,2147483647,2");
+        SortDesk again = Check.desk(500, 0, 500, 0);
+        again.order(3);
+        ordered("once more", again, 3, 0, "3,0,2 3,500,2");
         SortDesk pairs = new SortDesk();
         for (int i = 0; i < 150; i++) {
             pairs.put(-i % 75, i);
@@ -299,7 +302,7 @@ public final class WaysBoundaryTest {
     }
 
     private static void bytesSteps() {
-        Check.sentence("each time that not all have the same, a step: 4, the number of the byte (0 the lowest), how many");
+        Check.sentence("each time that not all have the same, a step: 4, the number of the byte (0 the lowest)");
         ordered("no item", Check.desk(), 4, 0, "");
         ordered("one item", Check.desk(0x01020304), 4, 0, "");
         ordered("150 items of one key", Check.same(150, -1), 4, 0, "");
